@@ -12,6 +12,7 @@ public final class BoundaryTest {
     private static final int FULL = -2;
     private static final int LEAST = Integer.MIN_VALUE;
     private static final int GREATEST = Integer.MAX_VALUE;
+    private static final int WAYS_OF_WRITING = 7;
     // Beside the next and the farthest ones: numbers that look right once they are cut to 8 or 16
     // digits, or that wrap around to the first sector when multiplied with its bytes or its cells.
     private static final int[] NOT_SECTORS = {-1, 4, LEAST, GREATEST, 258, 65538, 1 << 26, 1 << 28, 1 << 30, -256};
@@ -378,7 +379,7 @@ public final class BoundaryTest {
     }
 
     private static void spoiledSinceTheLastWrite() {
-        for (int way = 0; way < 6; way++) {
+        for (int way = 0; way < WAYS_OF_WRITING; way++) {
             SectorChain x = written();
             x.damage(1, 63, 5);
             writeInOneWay(x, way, 1);
@@ -397,7 +398,8 @@ public final class BoundaryTest {
             case 2 -> x.copy((s + 1) % 4, s);
             case 3 -> x.swap(s, (s + 1) % 4);
             case 4 -> x.swap((s + 1) % 4, s);
-            default -> x.swap(s, s);
+            case 5 -> x.swap(s, s);
+            default -> x.copy(s, s);
         }
     }
 
@@ -767,7 +769,7 @@ public final class BoundaryTest {
     }
 
     private static void loseWhenNoneIsLostAnyMore() {
-        for (int way = 0; way < 6; way++) {
+        for (int way = 0; way < WAYS_OF_WRITING; way++) {
             for (int s = 0; s < 4; s++) {
                 SectorChain x = written();
                 x.lose(2);
@@ -1077,7 +1079,7 @@ public final class BoundaryTest {
 
     private static void lostWhenNoneIs() {
         due("lost() at first", new SectorChain().lost(), BAD);
-        for (int way = 0; way < 6; way++) {
+        for (int way = 0; way < WAYS_OF_WRITING; way++) {
             for (int s = 0; s < 4; s++) {
                 SectorChain x = new SectorChain();
                 x.lose(s);
